@@ -154,6 +154,9 @@ public final class RowsTest {
         x.lay(3, 0, Integer.MIN_VALUE);
         x.lay(3, 1, Integer.MIN_VALUE);
         askedIs(x, "mean(3) of the least", x.mean(3), Integer.MIN_VALUE);
+        x.row(3, 40);
+        x.lay(3, 39, 79);
+        askedIs(x, "mean(3) of 40", x.mean(3), 1);
         DUE.is("mean(6)", x.mean(6), WideTown.BAD);
         DUE.is("mean(-1)", x.mean(-1), WideTown.BAD);
     }

@@ -112,6 +112,9 @@ public final class WalksTest {
         fill(x, 0, 123, 134);
         // 13 has both one street off, and no nearer one has
         is(x, "post(0)", x.post(0), 13, 2);
+        fill(x, 0, 123451234);
+        // 123, 124 are both on shortest ways, 6 from there
+        is(x, "of alike ones the first code", x.post(0), 123, 6);
         x.row(0, 20);
         is(x, "post of 20", x.post(0), 0, 0);
     }
