@@ -71,6 +71,12 @@ final class Crossings {
         return plain.toString();
     }
 
+    /** The PLAIN CODE of a word's crossing; SPENT, if it has none. */
+    static int code(String word) {
+        String plain = plain(word);
+        return plain.isEmpty() ? 0 : plain.length() > 9 ? WideTown.SPENT : Integer.parseInt(plain);
+    }
+
     static String reverse(String word) {
         return new StringBuilder(word).reverse().toString();
     }
