@@ -1,6 +1,6 @@
 import java.util.Map;
 
-/** Promises 20 to 30 at their bounds: CODES of 0 and of 9 figures, what is no CODE, CROSSINGS farther than 9 from HOME. */
+/** Promises 20 to 30 at their bounds: CODES of 0 and of 9 figures, what is no CODE, farther than 9 from HOME. */
 public final class CodeBoundsTest {
     private static final Due DUE = new Due();
     private static final String[] NINE = {"131313131", "135241352", "242424242", "555555555", "111111111", "123451234",
@@ -65,7 +65,8 @@ public final class CodeBoundsTest {
     }
 
     private static void home() {
-        Run run = run("home").is("plain(0)", 0).is("join(0, 0)", 0).is("back(0)", 0).is("far(0, 0)", 0).is("ends(0)", 0);
+        Run run = run("home").is("plain(0)", 0).is("join(0, 0)", 0).is("back(0)", 0).is("far(0, 0)", 0)
+            .is("ends(0)", 0);
         run.is("begins(0)", 0).tells("ways(0, 0)", 1, 1).is("between(0, 0)", 1).is("lies(0, 0, 0)", 1);
         run.is("lies(0, 0, 1)", 0).is("lies(1, 1, 1)", 1).is("lies(1, 1, 0)", 0).is("thin(0, 0, 0)", 0);
         run.is("path(0, 0, 0)", 0).is("count(6)", 1).holds(0).tells("beyond(0, 0)", 1, 1);
@@ -83,7 +84,8 @@ public final class CodeBoundsTest {
             Run run = run("nine figures").is("plain(" + code + ")", Crossings.code(code));
             String plain = Crossings.plain(code);
             String back = Crossings.plain(Crossings.reverse(code));
-            run.is("back(" + code + ")", Crossings.code(Crossings.reverse(code))).is("far(0, " + code + ")", plain.length());
+            run.is("back(" + code + ")", Crossings.code(Crossings.reverse(code)))
+                .is("far(0, " + code + ")", plain.length());
             run.is("far(" + code + ", 0)", plain.length()).is("far(" + code + ", " + code + ")", 0);
             run.is("join(" + code + ", 0)", Crossings.code(code)).is("join(0, " + code + ")", Crossings.code(code));
             int ends = 0;
@@ -144,7 +146,8 @@ public final class CodeBoundsTest {
     }
 
     private static void paths() {
-        Run run = run("paths").bad("path(0, 1, 6)", "path(0, 1, -1)", "path(6, 1, 0)", "path(1, 6, 0)").is("count(6)", 0);
+        Run run = run("paths").bad("path(0, 1, 6)", "path(0, 1, -1)", "path(6, 1, 0)", "path(1, 6, 0)")
+            .is("count(6)", 0);
         for (int r = 0; r <= 5; r++) {
             run.is("path(0, 5, " + r + ")", 1).holds(r, 4).is("count(6)", r + 1);
         }
@@ -152,11 +155,13 @@ public final class CodeBoundsTest {
         run.asks("at(0, 17)", 1, 1).finds(Run.BEYOND, "at(0, 18)").is("path(0, 0, 0)", 0).finds(Run.BEYOND, "at(0, 0)");
         // of two ways the first by STREETS: 12, not 21; 15, not 51
         run.is("path(0, 21, 1)", 2).holds(1, 0, 1).is("path(0, 51, 1)", 2).holds(1, 0, 4);
-        run.is("path(12, 0, 1)", 2).holds(1, 0, 1).is("path(1, 2, 1)", 2).holds(1, 0, 1).is("path(2, 1, 1)", 2).holds(1, 0, 1);
+        run.is("path(12, 0, 1)", 2).holds(1, 0, 1).is("path(1, 2, 1)", 2).holds(1, 0, 1).is("path(2, 1, 1)", 2)
+            .holds(1, 0, 1);
     }
 
     private static void lying() {
-        Run run = run("lying").is("lies(0, 12, 1)", 1).is("lies(0, 12, 2)", 1).is("lies(0, 12, 21)", 1).is("lies(0, 12, 0)", 1);
+        Run run = run("lying").is("lies(0, 12, 1)", 1).is("lies(0, 12, 2)", 1).is("lies(0, 12, 21)", 1)
+            .is("lies(0, 12, 0)", 1);
         run.is("lies(0, 12, 3)", 0).is("lies(0, 13, 3)", 0).is("lies(0, 13, 1)", 1).is("lies(0, 13, 131)", 0);
         run.is("lies(1, 3, 0)", 1).is("lies(1, 3, 13)", 0).is("lies(0, 131313131, 13131313)", 1);
         run.is("lies(0, 13131313, 131313131)", 0).is("lies(131313131, 242424242, 0)", 1).is("lies(1, 2, 12)", 1);

@@ -46,7 +46,8 @@ public final class CountBoundsTest {
         run.tells("ring(30)", rings[30], 1).tells("ring(29)", rings[29], 1);
         run.tells("within(30)", all, 1).tells("within(29)", all - rings[30], 1);
         DUE.that("more than an int holds", rings[30] > 4L * Integer.MAX_VALUE);
-        run.bad("ring(-1)", "ring(31)", "ring(max)", "ring(min)", "within(-1)", "within(31)", "within(max)", "within(min)");
+        run.bad("ring(-1)", "ring(31)", "ring(max)", "ring(min)", "within(-1)", "within(31)", "within(max)",
+            "within(min)");
         run.is("upper()", all - rings[30]).is("lower()", 1);
     }
 
@@ -128,9 +129,11 @@ public final class CountBoundsTest {
         run.is("upper()", 0).is("lower()", 1).tells("edge(3)", 40, 61);
         run.bad("ring(31)", "within(-1)", "edge(31)", "beyond(0, 21)", "houses(21)", "ways(0, 6)", "ways(10, 0)");
         run.is("upper()", 40).is("lower()", 61).row(0, 1, 2, 3).town("w0 s1");
-        run.then("between(0, 12)", "far(0, 12)", "mean(0)", "walk(0)", "post(0)", "held(0)", "drunk(5, 5)", "meet(0, 1)",
+        run.then("between(0, 12)", "far(0, 12)", "mean(0)", "walk(0)", "post(0)", "held(0)", "drunk(5, 5)",
+            "meet(0, 1)",
             "hours(3)", "keep(0)", "town(0)", "thin(0, 12, 3)", "lies(0, 12, 1)", "digest()", "tear(5)");
-        run.is("upper()", 40).is("lower()", 61).tells("ways(0, 12)", 2, 1).tells("edge(2)", 5, 7).tells("ring(0)", 1, 1);
+        run.is("upper()", 40).is("lower()", 61).tells("ways(0, 12)", 2, 1).tells("edge(2)", 5, 7)
+            .tells("ring(0)", 1, 1);
         run.tells("edge(1)", 5, 6).tells("beyond(0, 0)", 1, 1).tells("edge(1)", 5, 6).tells("houses(0)", 5, 1);
         run.tells("edge(1)", 5, 6).tells("within(1)", 6, 1).tells("edge(1)", 5, 6).tells("ways(0, 0)", 1, 1);
     }

@@ -155,7 +155,8 @@ public final class RefusalsTest {
         finds(Run.SIZE, "text(0, -1)", "text(3, -1)", "text(0, min)");
         badBy("put(X, 0, 119)", NO_TEXT);
         finds(Run.NOTHING, "put(3, 0, 119)");
-        finds(Run.BEYOND, "put(2, 4, 119)", "put(2, -1, 119)", "put(1, 0, 119)", "put(2, max, 119)", "put(2, min, 119)");
+        finds(Run.BEYOND, "put(2, 4, 119)", "put(2, -1, 119)", "put(1, 0, 119)", "put(2, max, 119)",
+            "put(2, min, 119)");
         badBy("fault(X)", NO_TEXT);
         finds(Run.NOTHING, "fault(3)");
         badBy("town(X)", NO_TEXT);
@@ -288,12 +289,15 @@ public final class RefusalsTest {
         // BAD ahead of every FINDING, each FINDING in the order in which the promise names them
         bad("row(6, -1)", "row(6, 41)", "lay(6, -1, 0)", "lay(-1, 40, 0)", "at(6, -1)", "at(-1, 40)", "text(4, -1)",
             "text(4, 81)", "put(4, -1, 0)", "put(-1, 80, 0)");
-        finds(Run.NOTHING, "lay(4, -1, 0)", "lay(4, 40, 0)", "at(4, -1)", "at(4, 40)", "put(3, -1, 0)", "put(3, 80, 0)");
+        finds(Run.NOTHING, "lay(4, -1, 0)", "lay(4, 40, 0)", "at(4, -1)", "at(4, 40)", "put(3, -1, 0)",
+            "put(3, 80, 0)");
         bad("copy(6, 0, 0, 0, -1)", "copy(0, 0, 6, 0, -1)", "copy(6, 0, 4, 0, 1)", "copy(4, 0, 6, 0, 1)",
             "copy(6, -1, 0, 0, 1)", "copy(0, 0, -1, 41, 1)");
-        finds(Run.SIZE, "copy(4, 0, 0, 0, -1)", "copy(0, 0, 4, 0, -1)", "copy(0, -1, 0, 0, -1)", "copy(0, 0, 0, 41, -1)",
+        finds(Run.SIZE, "copy(4, 0, 0, 0, -1)", "copy(0, 0, 4, 0, -1)", "copy(0, -1, 0, 0, -1)",
+            "copy(0, 0, 0, 41, -1)",
             "copy(4, 41, 4, 41, -1)");
-        finds(Run.NOTHING, "copy(4, -1, 0, 0, 1)", "copy(4, 0, 0, 41, 1)", "copy(0, 0, 4, -1, 1)", "copy(0, 41, 4, 0, 1)");
+        finds(Run.NOTHING, "copy(4, -1, 0, 0, 1)", "copy(4, 0, 0, 41, 1)", "copy(0, 0, 4, -1, 1)",
+            "copy(0, 41, 4, 0, 1)");
         bad("walker(5, 5)", "mark(5, 0)", "mark(0, 0)", "mark(3, 6)", "stand(5, 6)", "head(5, 5)", "meet(5, 5)",
             "part(5, 5, 41)", "part(2, 2, 41)", "drunk(0, 0)", "path(6, 6, 6)", "beyond(6, 21)");
         still("hours(21)", BAD, 0, "text(0, 0)", "town(0)");

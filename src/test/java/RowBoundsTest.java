@@ -125,7 +125,8 @@ public final class RowBoundsTest {
         run.is("copy(0, 0, 2, 0, 0)", 1).is("copy(0, 3, 2, 1, 0)", 1).is("copy(1, 0, 2, 0, 0)", 1);
         run.is("copy(0, 0, 1, 0, 0)", 1).is("copy(1, 0, 1, 0, 0)", 1);
         run.holds(0, 1, 2, 3).holds(1).holds(2, 4);
-        run.finds(Run.BEYOND, "copy(0, 4, 2, 0, 0)", "copy(0, 0, 2, 2, 0)", "copy(1, 1, 2, 0, 0)", "copy(1, -1, 2, 0, 0)",
+        run.finds(Run.BEYOND, "copy(0, 4, 2, 0, 0)", "copy(0, 0, 2, 2, 0)", "copy(1, 1, 2, 0, 0)",
+            "copy(1, -1, 2, 0, 0)",
             "copy(0, 0, 1, 1, 0)", "copy(0, 0, 1, -1, 0)", "copy(1, 0, 0, 0, 1)");
         run.finds(Run.NOTHING, "copy(3, 0, 0, 0, 0)", "copy(0, 0, 3, 0, 0)").finds(Run.SIZE, "copy(0, 0, 1, 0, -1)");
     }
@@ -159,7 +160,8 @@ public final class RowBoundsTest {
         run.row(0, 2, 0).asks("mean(0)", 1, 1).row(0, -2, 0).asks("mean(0)", 1, -1);
         run.row(0, max, max, max).asks("mean(0)", 1, max).row(0, min, min, min).asks("mean(0)", 1, min);
         run.row(0, min, max).asks("mean(0)", 1, 0).row(0, max, max, -max).asks("mean(0)", 1, max / 3);
-        run = run("means of full rows").row(5, all(40, max)).asks("mean(5)", 1, max).then("lay(5, 39, " + (max - 1) + ")");
+        run = run("means of full rows").row(5, all(40, max)).asks("mean(5)", 1, max)
+            .then("lay(5, 39, " + (max - 1) + ")");
         run.asks("mean(5)", 1, max - 1).row(5, all(40, min)).asks("mean(5)", 1, min);
         run.then("row(5, 40)", "lay(5, 39, 39)").asks("mean(5)", 1, 0).then("lay(5, 39, 40)").asks("mean(5)", 1, 1);
         run.then("lay(5, 39, -39)").asks("mean(5)", 1, 0).then("lay(5, 39, -40)").asks("mean(5)", 1, -1);
@@ -195,7 +197,8 @@ public final class RowBoundsTest {
         run.bad("text(1, 81)").finds(Run.SIZE, "text(1, -1)").finds(Run.NOTHING, "put(1, 0, 1)").is("count(7)", 1);
         // anew it is all blank
         run.then("put(0, 0, 9)", "put(0, 40, 9)", "text(0, 41)").is("put(0, 0, 1)", 1032).is("put(0, 40, 1)", 1032);
-        run.then("text(0, 0)", "text(0, 80)").is("put(0, 0, 1)", 1032).is("put(0, 40, 1)", 1032).is("put(0, 79, 1)", 1032);
+        run.then("text(0, 0)", "text(0, 80)").is("put(0, 0, 1)", 1032).is("put(0, 40, 1)", 1032)
+            .is("put(0, 79, 1)", 1032);
     }
 
     private static void bytes() {
@@ -256,7 +259,8 @@ public final class RowBoundsTest {
         for (int k = 1; k <= 480; k++) {
             run.is("tear(0)", WideTown.FINDING);
         }
-        run.is("findings(1)", 480).is("finding()", 1).is("findings(5)", 0).bad("findings(0)", "findings(6)", "findings(-1)");
+        run.is("findings(1)", 480).is("finding()", 1).is("findings(5)", 0)
+            .bad("findings(0)", "findings(6)", "findings(-1)");
         run.finds(Run.SIZE, "row(0, -1)");
         run.is("findings(1)", 480);
     }

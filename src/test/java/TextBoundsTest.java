@@ -76,7 +76,8 @@ public final class TextBoundsTest {
     private static void fullTexts() {
         String items = "w01234 s11234 c21234 h31234 r41234";
         faults(items + " ".repeat(46), NONE, " ".repeat(46) + items, NONE);
-        faults(" ".repeat(79) + "w", 80, " ".repeat(78) + "w0", NONE, " ".repeat(79) + "0", 79, " ".repeat(79) + "x", 79);
+        faults(" ".repeat(79) + "w", 80, " ".repeat(78) + "w0", NONE, " ".repeat(79) + "0", 79, " ".repeat(79) + "x",
+            79);
         faults(" ".repeat(74) + "o01234", NONE, " ".repeat(73) + "o012341", 79, " ".repeat(74) + "o01235", 79);
         faults(items + " ".repeat(45) + "o", 79, items + " ".repeat(45) + "4", 79);
     }
@@ -85,7 +86,8 @@ public final class TextBoundsTest {
         faults("w0", NONE, "w01", NONE, "w012", NONE, "w0123", NONE, "w01234", NONE, "w012340", 6, "w0123400", 6);
         faults("w000000", 6, "w444444", 6, "w44444", NONE, "w0123 4", 6, "w01234 0", 7, "s0 w012340", 9);
         faults("w01234w01234", NONE, "w01234w012341", 12, "w012345", 6, "w0123x", 5, "w012340x", 6);
-        faults("w5", 1, "w05", 2, "w005", 3, "w0005", 4, "w00005", 5, "w000005", 6, "w/", 1, "w0/", 2, "w-1", 1, "w0-1", 2);
+        faults("w5", 1, "w05", 2, "w005", 3, "w0005", 4, "w00005", 5, "w000005", 6, "w/", 1, "w0/", 2, "w-1", 1,
+            "w0-1", 2);
     }
 
     private static void sixthWalker() {
@@ -141,7 +143,8 @@ public final class TextBoundsTest {
         // by turns from the TEXT's HEADING on, though an odd number of STREETS was gone
         run.then("hours(1)").walker(0, 2, 3).then("hours(1)").walker(0, 2, 1);
         // a TEXT that is read again is the same TOWN
-        run.text(3, "w213 s04 c3").is("fault(3)", NONE).is("town(3)", 3).walker(0, 1, 24).walker(1, 1, 5).walker(2, 1, 0);
+        run.text(3, "w213 s04 c3").is("fault(3)", NONE).is("town(3)", 3).walker(0, 1, 24).walker(1, 1, 5)
+            .walker(2, 1, 0);
         run.is("town(3)", 3).walker(0, 1, 24).walker(1, 1, 5).walker(2, 1, 0).is("town(0)", 2).walker(0, 1, 0);
         // a TEXT that is changed changes no TOWN
         run.then("put(0, 0, 120)", "text(0, 0)").is("count(0)", 2).walker(0, 0, 1);

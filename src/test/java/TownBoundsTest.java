@@ -1,4 +1,4 @@
-/** Promises 12 to 19, 44, 45, 50 at their bounds: WALKERS, HEADINGS round modulo 5, 9 from HOME, HOUR 60, kept TOWNS. */
+/** Promises 12 to 19, 44, 45, 50, 53 at their bounds: HEADINGS round modulo 5, 9 from HOME, HOUR 60, kept TOWNS. */
 public final class TownBoundsTest {
     private static final int NONE = WideTown.NONE;
     private static final Due DUE = new Due();
@@ -48,7 +48,8 @@ public final class TownBoundsTest {
             run.is("head" + last + "0)", 0).bad("head" + none + "0)", "head(-1, 0)");
             run.finds(Run.UNLIKE, "mark" + last + "1)").bad("mark" + none + "1)", "mark(-1, 1)");
             run.bad("meet(0, " + n + ")", "meet" + none + "0)", "meet(0, -1)", "meet(-1, 0)", "meet(0, 0)");
-            run.bad("part(0, " + n + ", 0)", "part" + none + "0, 0)", "part(0, -1, 0)", "part(-1, 0, 0)", "part(0, 0, 0)");
+            run.bad("part(0, " + n + ", 0)", "part" + none + "0, 0)", "part(0, -1, 0)", "part(-1, 0, 0)",
+                "part(0, 0, 0)");
             if (n > 1) {
                 run.is("meet(0, " + (n - 1) + ")", 0).is("part" + last + "0, 0)", 0);
             }
@@ -85,8 +86,10 @@ public final class TownBoundsTest {
     private static void headingsByHead() {
         for (int kind = 0; kind <= 5; kind++) {
             for (int h = 0; h <= 4; h++) {
-                Run run = run("head of " + LETTERS.charAt(kind) + " to " + h).town(LETTERS.substring(kind, kind + 1) + "3");
-                run.is("head(0, " + h + ")", 3).walker(0, 2, h).then("hours(1)").walker(0, 2, headingBehind(kind, h, 1));
+                Run run = run("head of " + LETTERS.charAt(kind) + " to " + h)
+                    .town(LETTERS.substring(kind, kind + 1) + "3");
+                run.is("head(0, " + h + ")", 3).walker(0, 2, h).then("hours(1)")
+                    .walker(0, 2, headingBehind(kind, h, 1));
                 run.is("head(0, " + h + ")", headingBehind(kind, h, 1)).walker(0, 2, h);
                 for (int k = 1; k <= 4; k++) {
                     run.then("hours(1)").walker(0, 2, headingBehind(kind, h, k));
@@ -317,11 +320,13 @@ public final class TownBoundsTest {
     private static void meeting() {
         Run run = run("meeting").town("w0 w0 w1 h0 s0").asks("meet(0, 1)", 0, 0).asks("meet(1, 0)", 0, 0);
         // both are on 12 now, told by other WORDS
-        run.then("stand(0, 12)", "stand(2, 21)").asks("meet(0, 2)", 0, 12).bad("meet(0, 0)", "meet(5, 0)", "meet(0, 5)");
+        run.then("stand(0, 12)", "stand(2, 21)").asks("meet(0, 2)", 0, 12)
+            .bad("meet(0, 0)", "meet(5, 0)", "meet(0, 5)");
         run.is("asked()", 12);
         // behind an HOUR, not on the STREET: they change places by one STREET
         run.then("stand(0, 0)", "stand(1, 1)").is("meet(0, 1)", NONE).is("asked()", 12).is("finding()", 0);
-        run = run("meeting at 40").town("s33 c30").asks("meet(0, 1)", 40, 1).asks("meet(1, 0)", 40, 1).is("count(1)", 0);
+        run = run("meeting at 40").town("s33 c30").asks("meet(0, 1)", 40, 1).asks("meet(1, 0)", 40, 1)
+            .is("count(1)", 0);
         run = run("meeting at 41").town("s4414 c22").is("meet(0, 1)", NONE).is("asked()", 0).then("hours(1)");
         run.is("meet(0, 1)", 40).then("hours(20)", "hours(20)").is("meet(0, 1)", 0);
         // aside: HOUR 60 is no bound
@@ -331,7 +336,8 @@ public final class TownBoundsTest {
 
     private static void parting() {
         String town = "r0 o22 s1 c4 h4444";
-        Run run = run("parting").town(town).bad("part(0, 1, 41)", "part(0, 1, -1)", "part(0, 1, max)", "part(0, 1, min)");
+        Run run = run("parting").town(town).bad("part(0, 1, 41)", "part(0, 1, -1)", "part(0, 1, max)",
+            "part(0, 1, min)");
         long[] gaps = new long[41];
         for (int n = 0; n <= 40; n++) {
             gaps[n] = run.does("part(0, 1, " + n + ")");
@@ -340,7 +346,8 @@ public final class TownBoundsTest {
         for (int n = 0; n <= 40; n++) {
             run.is("far(" + run.fact(0, 1) + ", " + run.fact(1, 1) + ")", gaps[n]).then("hours(1)");
         }
-        run = run("parting to 18").town("s0 s1").is("part(0, 1, 9)", 18).is("part(0, 1, 10)", 18).is("part(0, 1, 8)", 16);
+        run = run("parting to 18").town("s0 s1").is("part(0, 1, 9)", 18).is("part(0, 1, 10)", 18)
+            .is("part(0, 1, 8)", 16);
         run.is("part(0, 1, 0)", 0).is("part(1, 0, 40)", 4).then("hours(20)", "hours(20)", "hours(20)");
         run.is("part(0, 1, 0)", run.does("far(" + run.fact(0, 1) + ", " + run.fact(1, 1) + ")"));
         run.is("count(1)", 60).is("part(0, 1, 40)", run.does("part(1, 0, 40)")).is("count(1)", 60);
@@ -351,7 +358,8 @@ public final class TownBoundsTest {
         run.is("count(7)", 0).town("s0 r0 s0 r0 s0").is("count(2)", 5).is("count(3)", 0).is("count(4)", 5);
         run.then("hours(1)").is("count(4)", 0).is("count(1)", 1);
         run.town("c0 o0 c0 o0 o0").is("count(2)", 0).is("count(3)", 5).is("count(0)", 5);
-        run.town("w0 h0 w0").is("count(2)", 0).is("count(3)", 0).is("count(0)", 3).then("stand(0, 1)").is("count(4)", 2);
+        run.town("w0 h0 w0").is("count(2)", 0).is("count(3)", 0).is("count(0)", 3).then("stand(0, 1)")
+            .is("count(4)", 2);
         run.is("count(5)", 0).is("keep(0)", 0).is("keep(0)", 0).is("count(5)", 1).is("count(7)", 1);
         run.town("w0").is("count(5)", 0).is("keep(2)", 0).is("count(5)", 1).is("keep(1)", 0).is("count(5)", 2);
         run.is("on(1)", 0).is("on(2)", 0).is("count(0)", 1);
@@ -363,7 +371,8 @@ public final class TownBoundsTest {
 
     /** digest() of a full TOWN, of one of one WALKER, of one of none, with all places of kept ones. */
     private static void digests() {
-        Run run = run("digest of a full town").town("w1 s2 c3 h424 o00").then("text(0, 0)", "hours(1)", "keep(0)", "hours(1)");
+        Run run = run("digest of a full town").town("w1 s2 c3 h424 o00")
+            .then("text(0, 0)", "hours(1)", "keep(0)", "hours(1)");
         run.then("keep(2)", "hours(1)");
         // 5 WALKERS, HOUR 3, 1 STRAIGHT, 2 CIRCLERS, 1 at HOME, 2 kept, no ROWS, 1 TEXT
         run.is("digest()", digest(5, 3, 1, 2, 1, 2, 0, 1,
@@ -373,9 +382,11 @@ public final class TownBoundsTest {
             3, 0, 4, 2, 0,
             5, 23, 3, 3, 2,
             1, -1, 2, -1, -1, -1, -1, -1, -1, 0, -1, -1, -1));
-        run = run("digest of one").town("r4").then("hours(1)", "text(0, 0)").is("digest()", digest(1, 1, 1, 0, 0, 0, 0, 1,
+        run = run("digest of one").town("r4").then("hours(1)", "text(0, 0)")
+            .is("digest()", digest(1, 1, 1, 0, 0, 0, 0, 1,
             4, 52, 4, 2, 2, -1, -1, -1, -1, -1, -1, -1, -1, -1, 0, -1, -1, -1));
-        run.then("town(0)").is("digest()", digest(0, 0, 0, 0, 0, 0, 0, 1, -1, -1, -1, -1, -1, -1, -1, -1, -1, 0, -1, -1, -1));
+        run.then("town(0)").is("digest()", digest(0, 0, 0, 0, 0, 0, 0, 1, -1, -1, -1, -1, -1, -1, -1, -1, -1, 0, -1,
+            -1, -1));
     }
 
     private static long digest(int... told) {

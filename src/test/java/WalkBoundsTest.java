@@ -50,7 +50,8 @@ public final class WalkBoundsTest {
     private static void emptyRows() {
         Run run = run("empty rows").row(0).row(1, 7).then("at(1, 0)").asks("walk(0)", 0, 0).then("at(1, 0)");
         run.asks("reaches(0)", 0, 0).is("sees(0)", 1).is("round(0, 1)", 0).holds(1).row(1, 7).then("at(1, 0)");
-        run.asks("post(0)", 0, 0).asks("held(0)", 0, 166).is("idle(0)", NONE).is("burns(0, 4)", 166).is("burns(0, 0)", 1);
+        run.asks("post(0)", 0, 0).asks("held(0)", 0, 166).is("idle(0)", NONE).is("burns(0, 4)", 166)
+            .is("burns(0, 0)", 1);
         run.is("round(0, 0)", 0).holds(0).is("round(0, 5)", 0).holds(5).is("count(6)", 3);
     }
 
@@ -61,7 +62,8 @@ public final class WalkBoundsTest {
             run.asks("post(" + r + ")", 0, 2).is("burns(" + r + ", 1)", 4).is("idle(" + r + ")", NONE);
             run.is("held(" + r + ")", 0).is("round(" + r + ", " + (5 - r) + ")", 4).holds(5 - r, 0, 1);
         }
-        for (String call : new String[] {"walk(X)", "reaches(X)", "sees(X)", "post(X)", "burns(X, 1)", "held(X)", "idle(X)",
+        for (String call : new String[] {"walk(X)", "reaches(X)", "sees(X)", "post(X)", "burns(X, 1)", "held(X)",
+            "idle(X)",
             "round(X, 0)", "round(0, X)"}) {
             run.bad(call.replace("X", "6"), call.replace("X", "-1"));
         }
@@ -94,7 +96,8 @@ public final class WalkBoundsTest {
         run.asks("reaches(0)", 10, 10).is("sees(0)", 11);
         // by 10 and back to 9; to 10 again
         run.row(0, 0, 2, 0, 2, 0, 2, 0, 2, 0, 2, 2).asks("walk(0)", 131313131, 2).asks("reaches(0)", 10, 10);
-        run.is("sees(0)", 11).row(0, 0, 2, 0, 2, 0, 2, 0, 2, 0, 2, 2, 2).then("at(0, 1)").asks("walk(0)", WideTown.SPENT, 2);
+        run.is("sees(0)", 11).row(0, 0, 2, 0, 2, 0, 2, 0, 2, 0, 2, 2, 2).then("at(0, 1)")
+            .asks("walk(0)", WideTown.SPENT, 2);
         run.then("lay(0, 11, 5)").finds(Run.UNLIKE, "walk(0)");
     }
 
@@ -119,13 +122,15 @@ public final class WalkBoundsTest {
     }
 
     private static void roundsOfSix() {
-        Run run = run("rounds of six").row(0, 131, 24, 35, 41, 52, 1313).is("round(0, 1)", roundOf(131, 24, 35, 41, 52, 1313));
+        Run run = run("rounds of six").row(0, 131, 24, 35, 41, 52, 1313)
+            .is("round(0, 1)", roundOf(131, 24, 35, 41, 52, 1313));
         run.row(0, 555555555, 131313131, 242424242, 313131313, 424242424, 535353535).then("row(1, 40)");
         // 5 lies on the way to the last one
         run.is("round(0, 1)", 18 * 5).holds(1, 0, 5, 1, 2, 3, 4);
         run.row(0, 0, 0, 0, 0, 0, 0).is("round(0, 5)", 0).holds(5, 0, 1, 2, 3, 4, 5);
         run.row(0, 131313131).is("round(0, 0)", 18).holds(0, 0).row(0, 131313131, 131313131).is("round(0, 2)", 18);
-        run.row(3, 0, 0, 0, 0, 0, 0, 0).finds(Run.SIZE, "round(3, 1)").row(3, all(40, 1)).finds(Run.SIZE, "round(3, 4)");
+        run.row(3, 0, 0, 0, 0, 0, 0, 0).finds(Run.SIZE, "round(3, 1)").row(3, all(40, 1))
+            .finds(Run.SIZE, "round(3, 4)");
         run.finds(Run.NOTHING, "at(4, 0)");
         for (String no : new String[] {"-1", "6", "10", "555555556", "1111111111", "max", "min"}) {
             for (int place = 0; place < 6; place += 5) {
@@ -168,7 +173,8 @@ public final class WalkBoundsTest {
     private static void postsAtThree() {
         Run run = run("posts at three").row(0, 131).asks("post(0)", 131, 0).row(0, 1313).asks("post(0)", 131, 1);
         run.row(0, 131313131).asks("post(0)", 131, 6).row(0, 1313, 1313, 1313, 0).asks("post(0)", 131, 6);
-        run.row(0, 1313, 0).asks("post(0)", 0, 4).row(0, 555).asks("post(0)", 5, 0).row(0, 1234, 1234).asks("post(0)", 123, 2);
+        run.row(0, 1313, 0).asks("post(0)", 0, 4).row(0, 555).asks("post(0)", 5, 0).row(0, 1234, 1234)
+            .asks("post(0)", 123, 2);
         // of alike ones the nearest HOME, then the first CODE
         run.row(0, 13, 1).asks("post(0)", 1, 1).row(0, 1, 2, 12, 0).asks("post(0)", 0, 4).row(0, 3, 3, 24, 24);
         run.asks("post(0)", 0, 6).row(0, 123, 125).asks("post(0)", 12, 2).row(0, 134, 154).asks("post(0)", 14, 2);
@@ -186,7 +192,8 @@ public final class WalkBoundsTest {
 
     private static void firesByHours() {
         int[] free = {1, 6, 21, 61, 166};
-        Run run = run("fires by hours").row(0).row(1, 1).bad("burns(0, -1)", "burns(0, 5)", "burns(0, max)", "burns(0, min)");
+        Run run = run("fires by hours").row(0).row(1, 1).bad("burns(0, -1)", "burns(0, 5)", "burns(0, max)",
+            "burns(0, min)");
         for (int n = 0; n <= 4; n++) {
             run.is("burns(0, " + n + ")", free[n]).is("burns(1, " + n + ")", behind(n, "1"));
         }
@@ -223,7 +230,8 @@ public final class WalkBoundsTest {
         run.then("lay(0, 0, -1)").finds(Run.UNLIKE, "burns(0, 4)", "held(0)", "idle(0)");
         // guards 4 and 5 off; of 9 figures, but near by
         run.row(1, 1313).is("burns(1, 4)", 165).is("burns(1, 3)", 61).row(1, 13131, 131313131).is("burns(1, 4)", 166);
-        run.row(1, 555555555).is("burns(1, 1)", 5).is("burns(1, 4)", behind(4, "5")).row(1, 212121211).is("burns(1, 1)", 5);
+        run.row(1, 555555555).is("burns(1, 1)", 5).is("burns(1, 4)", behind(4, "5")).row(1, 212121211)
+            .is("burns(1, 1)", 5);
     }
 
     private static void heldAtFour() {
@@ -237,6 +245,8 @@ public final class WalkBoundsTest {
         DUE.is("a thread of fire", behind(4, thread), 4);
         run.row(0, codes(thread)).asks("held(0)", 1, 4);
         run.then("lay(0, 13, 0)").asks("held(0)", 0, 5);
+        // an earlier fire leaves nothing behind
+        run.then("lay(0, 13, 5353)").asks("held(0)", 1, 4).row(1).asks("held(1)", 0, 166).asks("held(0)", 1, 4);
     }
 
     private static int[] codes(String... words) {
@@ -248,9 +258,11 @@ public final class WalkBoundsTest {
     }
 
     private static void idleOnes() {
-        Run run = run("idle ones").row(0, 1).is("idle(0)", NONE).row(0, 0).is("idle(0)", 0).row(0, 13131).is("idle(0)", 0);
+        Run run = run("idle ones").row(0, 1).is("idle(0)", NONE).row(0, 0).is("idle(0)", 0).row(0, 13131)
+            .is("idle(0)", 0);
         run.row(0, 1313).is("idle(0)", NONE).row(0, all(20, 1)).is("idle(0)", 0).row(0, 1, 2, 1).is("idle(0)", 0);
-        String[] rings = {"1", "2", "24", "35", "141", "142", "313", "314", "353", "424", "425", "531", "535", "1413", "1414",
+        String[] rings = {"1", "2", "24", "35", "141", "142", "313", "314", "353", "424", "425", "531", "535", "1413",
+            "1414",
             "3131", "3135", "4242", "5353", "131313131"};
         run.row(0, codes(rings)).is("idle(0)", idleOf(rings)).is("asked()", 0);
         // 13 is held by its own guard alone: 2, 12, 123 lead there in 4 HOURS
@@ -271,7 +283,8 @@ public final class WalkBoundsTest {
     }
 
     private static void lots() {
-        Run run = run("lots").bad("drunk(0, 1)", "drunk(-1, 1)", "drunk(61, 1)", "drunk(1, 0)", "drunk(1, -1)", "drunk(1, max)",
+        Run run = run("lots").bad("drunk(0, 1)", "drunk(-1, 1)", "drunk(61, 1)", "drunk(1, 0)", "drunk(1, -1)",
+            "drunk(1, max)",
             "drunk(1, min)", "drunk(min, 1)", "drunk(max, 1)", "drunk(61, 2147483646)", "drunk(60, max)");
         int[] seeds = {1, 2, 5, 99, 48271, 1234567890, 2147483645, 2147483646};
         for (int seed : seeds) {
@@ -301,8 +314,10 @@ public final class WalkBoundsTest {
     private static void askedLast() {
         Run run = run("asked last").is("asked()", 0).row(0, 0, 2, 4, 4).row(1, 7, 9).row(2).row(3, straight(10));
         run.town("w0 s1 w3").then("stand(0, 12)", "at(1, 1)").is("asked()", 9);
-        String[] refused = {"lay(6, 0, 0)", "lay(5, 0, 0)", "lay(1, 2, 0)", "at(6, 0)", "at(5, 0)", "at(1, 2)", "mean(6)",
-            "mean(5)", "mean(2)", "walker(3, 0)", "walker(0, 5)", "walk(6)", "walk(5)", "walk(1)", "walk(3)", "reaches(6)",
+        String[] refused = {"lay(6, 0, 0)", "lay(5, 0, 0)", "lay(1, 2, 0)", "at(6, 0)", "at(5, 0)", "at(1, 2)",
+            "mean(6)",
+            "mean(5)", "mean(2)", "walker(3, 0)", "walker(0, 5)", "walk(6)", "walk(5)", "walk(1)", "walk(3)",
+                "reaches(6)",
             "reaches(5)", "reaches(1)", "post(6)", "post(5)", "post(1)", "held(6)", "held(5)", "held(1)", "meet(0, 0)",
             "meet(0, 3)", "meet(0, 2)", "drunk(0, 1)", "drunk(1, 0)"};
         for (String call : refused) {
@@ -310,7 +325,8 @@ public final class WalkBoundsTest {
             run.is("asked()", 9);
         }
         for (String call : new String[] {"row(4, 3)", "tear(4)", "copy(1, 0, 1, 1, 1)", "text(1, 3)", "put(1, 0, 5)",
-            "fault(1)", "mark(1, 1)", "stand(2, 3)", "head(2, 0)", "hours(2)", "undo(1)", "keep(0)", "on(0)", "plain(21)",
+            "fault(1)", "mark(1, 1)", "stand(2, 3)", "head(2, 0)", "hours(2)", "undo(1)", "keep(0)", "on(0)",
+                "plain(21)",
             "join(1, 2)", "far(1, 3)", "ways(0, 12)", "between(0, 12)", "path(0, 12, 4)", "thin(0, 12, 3)", "edge(3)",
             "houses(2)", "sees(0)", "round(2, 4)", "burns(2, 3)", "idle(2)", "part(0, 1, 3)", "count(1)", "digest()",
             "town(0)"}) {
