@@ -1246,7 +1246,7 @@ public final class WideTown {
             }
             Arrays.fill(byNumber, NO_CROSSING);
             numberOf(0, 0);
-            for (int c = 0; c < size; c++) {
+            for (int c = 0; c < CROSSINGS && c < size; c++) {
                 for (int street = 0; street < STREETS; street++) {
                     word.becomes(codes[c]);
                     word.go(street);

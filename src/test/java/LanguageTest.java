@@ -6,7 +6,9 @@ import java.lang.reflect.Method;
 import java.lang.reflect.Modifier;
 import java.nio.file.Files;
 import java.nio.file.Path;
+import java.util.HashMap;
 import java.util.HashSet;
+import java.util.Map;
 import java.util.Set;
 import java.util.regex.Matcher;
 import java.util.regex.Pattern;
@@ -21,6 +23,7 @@ public final class LanguageTest {
     public static void main(String[] args) throws IOException {
         face();
         source();
+        loops();
         room();
         DUE.end();
     }
@@ -87,6 +90,56 @@ public final class LanguageTest {
                 DUE.that("a short method ends at line " + (i + 1), i - from <= 60 || lines[i].length() == 5);
             }
         }
+    }
+
+    /** Rule 9: no loop goes against a bound alone that it moves itself, or by a method of its own class. */
+    private static void loops() throws IOException {
+        String text = Files.readString(Path.of("src/main/java/WideTown.java"));
+        String code = text.replaceAll("(?s)/\\*.*?\\*/", "").replaceAll("//[^\n]*", "");
+        int looked = 0;
+        for (String inside : code.split("private static final class ")) {
+            Map<String, String> methods = bodies(inside, "(?m)^ {4,8}\\w[\\w\\[\\] ]* (\\w+)\\([^;{]*\\) \\{");
+            Matcher loop = Pattern.compile("for \\(int (\\w+) = [^;]*; \\1 <=? (\\w+); [^{]*\\{").matcher(inside);
+            while (loop.find()) {
+                looked++;
+                DUE.that("a bound that the loop does not move: " + loop.group(),
+                    !moves(body(inside, loop.end()), loop.group(2), methods, new HashSet<>()));
+            }
+        }
+        DUE.that("loops are found", looked > 20);
+    }
+
+    private static Map<String, String> bodies(String code, String head) {
+        Map<String, String> bodies = new HashMap<>();
+        Matcher heads = Pattern.compile(head).matcher(code);
+        while (heads.find()) {
+            bodies.merge(heads.group(1), body(code, heads.end()), String::concat);
+        }
+        return bodies;
+    }
+
+    /** From behind an opening brace to the one that closes it. */
+    private static String body(String code, int from) {
+        int open = 1;
+        int i = from;
+        for (; i < code.length() && open > 0; i++) {
+            open += code.charAt(i) == '{' ? 1 : code.charAt(i) == '}' ? -1 : 0;
+        }
+        return code.substring(from, i);
+    }
+
+    private static boolean moves(String body, String bound, Map<String, String> methods, Set<String> seen) {
+        if (Pattern.compile("(?<![.\\w])" + bound + "(\\+\\+|--| [-+*/]?= )").matcher(body).find()) {
+            return true;
+        }
+        Matcher calls = Pattern.compile("(?<![.\\w])(\\w+)\\(").matcher(body);
+        while (calls.find()) {
+            String name = calls.group(1);
+            if (methods.containsKey(name) && seen.add(name) && moves(methods.get(name), bound, methods, seen)) {
+                return true;
+            }
+        }
+        return false;
     }
 
     /** All calls of a run live in one room, so calls make nothing and an object is small. */
